@@ -752,7 +752,7 @@ public final class TalkingPlots {
         }
     }
 
-    /** BURIALS, done in a yard that is thrown away if there is a FAULT. */
+    /** BURIALS, done in a spare yard, which is left aside if there is a FAULT. */
     private static final class BurialReader {
         static final int MOST_LINES = 20;
 
@@ -943,6 +943,14 @@ public final class TalkingPlots {
         static final int NOT = 2;
         static final int SKIP_IF = 3;
         static final int SKIP_IF_NOT = 4;
+        static final int P = 0;
+        static final int K = 1;
+        static final int S = 2;
+        static final int U = 3;
+        static final int M = 4;
+        static final int O = 5;
+        static final int N = 6;
+        static final int T = 7;
 
         final int[] step = new int[MOST_STEPS];
         final int[] with = new int[MOST_STEPS];
@@ -952,7 +960,7 @@ public final class TalkingPlots {
         final int[] middle = new int[MOST_RULES];
         final int[] end = new int[MOST_RULES];
         int rules;
-        /** What p, k, s, u, m, o, n, t stand for. */
+        /** What the letters p, k, s, u, m, o, n, t stand for when it is asked. */
         final int[] values = new int[8];
         private final int[] stack = new int[32];
         private int top;
@@ -1252,21 +1260,21 @@ public final class TalkingPlots {
         private static int valueOf(int sign) {
             switch (sign) {
                 case 'p':
-                    return 0;
+                    return Law.P;
                 case 'k':
-                    return 1;
+                    return Law.K;
                 case 's':
-                    return 2;
+                    return Law.S;
                 case 'u':
-                    return 3;
+                    return Law.U;
                 case 'm':
-                    return 4;
+                    return Law.M;
                 case 'o':
-                    return 5;
+                    return Law.O;
                 case 'n':
-                    return 6;
+                    return Law.N;
                 case 't':
-                    return 7;
+                    return Law.T;
                 default:
                     return NONE;
             }
@@ -1293,9 +1301,9 @@ public final class TalkingPlots {
 
         private void wake(Yard yard, Law law, int p) {
             int others = yard.beside(p);
-            law.values[4] = yard.mood[p];
-            law.values[6] = Integer.bitCount(others);
-            law.values[7] = yard.night % 100;
+            law.values[Law.M] = yard.mood[p];
+            law.values[Law.N] = Integer.bitCount(others);
+            law.values[Law.T] = yard.night % 100;
             tellLaw(yard, law, p, NONE);
             if (law.keepsSilent()) {
                 return;
@@ -1335,11 +1343,11 @@ public final class TalkingPlots {
             boolean isAlone = k < 0 || k >= PEOPLE;
             int mine = yard.topics[p];
             int its = isAlone ? 0 : yard.topics[k];
-            law.values[0] = p;
-            law.values[1] = isAlone ? 0 : k;
-            law.values[2] = Integer.bitCount(mine & its);
-            law.values[3] = Integer.bitCount(its & ~mine);
-            law.values[5] = isAlone ? 0 : yard.mood[k];
+            law.values[Law.P] = p;
+            law.values[Law.K] = isAlone ? 0 : k;
+            law.values[Law.S] = Integer.bitCount(mine & its);
+            law.values[Law.U] = Integer.bitCount(its & ~mine);
+            law.values[Law.O] = isAlone ? 0 : yard.mood[k];
         }
 
         private void learn(Yard yard, int p, int k) {
