@@ -166,6 +166,11 @@ public final class LawTest {
         moreDue("g5(1=1|1=1&1=2|1=2)", 5);
         moreDue("g5(1=2);g6(1=1);g7(1=1)", 6);
         moreDue("h5(1=1);e6(1=1)", 0);
+        moreDue("q(1=1);g5(1=1)", 0);
+        moreDue("q(1=2);g5(1=1)", 5);
+        moreDue("q(1=2);q(1=1);g5(1=1)", 0);
+        moreDue("q(1=1);q(1=2);g5(1=1)", 0);
+        moreDue("g5(1=1);q(1=2);q(1=1)", 0);
     }
 
     private static void refused() {

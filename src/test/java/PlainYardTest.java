@@ -238,7 +238,7 @@ public final class PlainYardTest {
         int rules = below(15) == 0 ? 15 + below(3) : 2 + below(6);
         for (int i = 0; i < rules; i++) {
             StringBuilder rule = new StringBuilder();
-            char letter = i == 0 ? 'e' : "eehhggbbq".charAt(below(9));
+            char letter = i == 0 && below(3) != 0 ? 'e' : "eehhggbbq".charAt(below(9));
             int deep = rules > 10 ? 0 : 3 + below(5);
             rule.append(letter);
             if (letter != 'q') {
