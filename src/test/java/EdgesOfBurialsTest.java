@@ -11,6 +11,7 @@ public final class EdgesOfBurialsTest {
         people();
         topicsAndMoods();
         nobodyOnAnothers();
+        besideAndShared();
         below0();
         bytes();
         lines();
@@ -99,6 +100,24 @@ public final class EdgesOfBurialsTest {
         doc.burials(x, "b@4,4", -8002);
         doc.due("a lies there", x.count(64), 0);
         doc.due("b is not laid", x.personIs(1, 2), -2);
+    }
+
+    private static void besideAndShared() {
+        doc.says("BESIDE are PEOPLE laid on PLOTS that are NEXT.");
+        TalkingPlots x = Sentences.with(3, 6);
+        doc.due("not laid", x.personIs(0, 3), 0);
+        Checks.burials(x, "a@0,0");
+        doc.due("the other one is not laid", x.personIs(0, 3), 0);
+        doc.due("nor he himself", x.personIs(1, 3), 0);
+        Checks.burials(x, "b@0,1");
+        doc.due("both are laid", x.personIs(0, 3), 2);
+        doc.says("SHARED by two are TOPICS that both have.");
+        Checks.law(x, "e1(p=0);gs(p=0)");
+        doc.due("one", x.tried(1, 10), 51);
+        Checks.burials(x, "b-B");
+        doc.due("none", x.tried(1, 10), 50);
+        Checks.burials(x, "b+A;b+B");
+        doc.due("two", x.tried(1, 10), 52);
     }
 
     private static void below0() {
